@@ -317,11 +317,11 @@ public final class BracketHall {
 
     public int repair() {
         int cost = mendNow().total;
-        if (!now.hasRoom(mending.growth())) {
+        before.copyFrom(now);
+        if (!mendText()) {
             return REFUSED;
         }
-        history.keep(now);
-        mendText();
+        history.keep(before);
         return cost;
     }
 
@@ -562,12 +562,20 @@ public final class BracketHall {
         textTouched();
     }
 
-    /** Does the steps that mendNow has found; those ahead stay where they are, as it goes from the last one. */
-    private void mendText() {
+    /**
+     * Does the steps that mendNow has found, if the text has room for them. From the last one to the
+     * first one those ahead keep their places; and no text between is longer than the one at the end,
+     * as one repair never has both DROP and GIVE: the cheaper one is always taken.
+     */
+    private boolean mendText() {
+        if (!now.hasRoom(mending.growth())) {
+            return false;
+        }
         for (int k = mending.steps - 1; k >= 0; k--) {
             mendBracket(mending.actOf(k), mending.placeOf(k), mending.roleOf(k));
         }
         textTouched();
+        return true;
     }
 
     private void mendBracket(int act, int place, int role) {
@@ -590,7 +598,9 @@ public final class BracketHall {
             case PUT: return followPut(a, b);
             case SWAP: return followSwap(a, b);
             case WRAP: return followWrap(a, b, orders.numberOf(order, 2));
-            case REPAIR: return followRepair();
+            case REPAIR:
+                mendNow();
+                return mendText();
             default: return readNow().lones() == a;
         }
     }
@@ -629,14 +639,6 @@ public final class BracketHall {
             return false;
         }
         putPair(from, to, kind);
-        return true;
-    }
-
-    private boolean followRepair() {
-        if (!now.hasRoom(mendNow().growth())) {
-            return false;
-        }
-        mendText();
         return true;
     }
 
@@ -696,7 +698,7 @@ public final class BracketHall {
 
         void moveOn() {
             start = stop;
-            while (start < end && sortAt(start) == BLANK) {
+            while (start < end && sortOf(input.byteAt(start)) == BLANK) {
                 start++;
             }
             stop = start;
@@ -704,9 +706,9 @@ public final class BracketHall {
                 sort = ENDED;
                 return;
             }
-            sort = sortAt(start);
+            sort = sortOf(input.byteAt(start));
             stop++;
-            while (stop < end && longest() > 1 && sortAt(stop) == sort) {
+            while (stop < end && longest() > 1 && sortOf(input.byteAt(stop)) == sort) {
                 stop++;
             }
             if (stop - start > longest()) {
@@ -723,8 +725,7 @@ public final class BracketHall {
             }
         }
 
-        private int sortAt(int index) {
-            int value = input.byteAt(index);
+        private static int sortOf(int value) {
             if (value == ' ' || value == LINE_FEED) {
                 return BLANK;
             }

@@ -4,6 +4,7 @@ public final class ChangesTest {
     private static final String SIGNS = "kinds () []; quote \" escape \\; note #;";
 
     public static void main(String[] args) {
+        knownAnew();
         insert();
         insertRefusals();
         erase();
@@ -28,6 +29,51 @@ public final class ChangesTest {
 
     private static void dueChanges(String call, BracketHall hall, int changes) {
         Check.due(call + ": number of changes", hall.size(9), changes);
+    }
+
+    /** What was known ahead of a change is not what is answered behind it. */
+    private static void knownAnew() {
+        BracketHall hall = Check.holding("kinds () [];", "(a]");
+        dueKnown(hall, "load", "! . !", 4);
+        Check.insert(hall, 3, ")");
+        dueKnown(hall, "insert", "0 . ! 0", 2);
+        hall.erase(2, 3);
+        dueKnown(hall, "erase", "0 . 0", 0);
+        hall.wrap(0, 1, 1);
+        dueKnown(hall, "wrap", "0 ! 0 . !", 4);
+        hall.unwrap(2);
+        dueKnown(hall, "unwrap", "0 . 0", 0);
+        Check.insert(hall, 3, "(");
+        dueKnown(hall, "insert at the end", "0 . 0 !", 2);
+        hall.repair();
+        dueKnown(hall, "repair", "0 . 0", 0);
+        hall.undo();
+        dueKnown(hall, "undo", "0 . 0 !", 2);
+        hall.saveSnapshot(0);
+        Check.script(hall, "put 0 40;");
+        dueKnown(hall, "put", "! 0 . 0 !", 4);
+        Check.script(hall, "swap 0 3;");
+        dueKnown(hall, "swap", "! ! . ! !", 8);
+        Check.script(hall, "wrap 0 0 0;");
+        dueKnown(hall, "wrap in a script", "0 0 ! ! . ! !", 8);
+        Check.due("33 not done", Check.script(hall, "erase 0 2; put 0 91; want 5; want 4;"), -23);
+        dueKnown(hall, "a script not done", "0 0 ! ! . ! !", 8);
+        Check.due("33 repair not done", Check.script(hall, "want 4; repair; want 0; want 1;"), -23);
+        dueKnown(hall, "a repair not done", "0 0 ! ! . ! !", 8);
+        hall.restoreSnapshot(0);
+        dueKnown(hall, "restoreSnapshot", "0 . 0 !", 2);
+        Check.script(hall, "erase 0 1;");
+        dueKnown(hall, "erase in a script", ". ! !", 4);
+        Check.script(hall, "repair;");
+        dueKnown(hall, "repair in a script", ".", 0);
+        Check.setup(hall, "kinds [];");
+        dueKnown(hall, "setup", "", 0);
+    }
+
+    private static void dueKnown(BracketHall hall, String change, String report, int cost) {
+        Check.dueText("report behind " + change, Check.reportOf(hall).replaceAll("(?<=.)(?=.)", " "), report);
+        Check.due("cost behind " + change, hall.repairCost(), cost);
+        Check.due("lone ones behind " + change, hall.size(3), report.length() - report.replace("!", "").length());
     }
 
     private static void insert() {
@@ -99,6 +145,9 @@ public final class ChangesTest {
         Check.due("25 all", hall.erase(0, 3), 0);
         Check.dueText("25 marks", Check.marksOf(hall), "0 0 0 0 0 0 0");
         Check.due("25 empty text", hall.erase(0, 0), 0);
+        BracketHall behind = marked(KINDS, "abcdef", 6, 5, 4, 3);
+        Check.due("25 first half", behind.erase(0, 4), 2);
+        Check.dueText("25 marks behind", Check.marksOf(behind), "2 1 0 0");
     }
 
     private static void wrap() {
@@ -189,6 +238,9 @@ public final class ChangesTest {
         most.erase(0, 1);
         Check.due("28 240 bytes by giving", most.repair(), 360);
         Check.dueText("28 text", Check.textOf(most), "()".repeat(120));
+        BracketHall both = Check.holding("kinds () []; costs 9 3 1;", "(](" + "x".repeat(237));
+        Check.due("28 a change makes no room", both.repair(), -2);
+        Check.dueText("28 a refusal leaves the steps", Check.stepsOf(both), "C1:0 G2:0");
         BracketHall drop = Check.holding("(".repeat(240));
         Check.due("28 all dropped", drop.repair(), 480);
         Check.due("28 nothing left", drop.size(0), 0);

@@ -84,6 +84,9 @@ public final class PlacesTest {
         BracketHall hall = Check.holding(SIGNS, "ab\n\n\"c\nd\"e");
         Check.dueText("7 lines", Check.looks(hall, 7), "0 0 0 1 2 2 2 3 3 3");
         Check.dueText("7 columns", Check.looks(hall, 8), "0 1 2 0 0 1 2 0 1 2");
+        Check.load(hall, "\n\na");
+        Check.dueText("7 lines from the first byte on", Check.looks(hall, 7), "0 1 2");
+        Check.dueText("7 columns from the first byte on", Check.looks(hall, 8), "0 0 0");
     }
 
     private static void around() {
@@ -144,6 +147,11 @@ public final class PlacesTest {
         BracketHall text = Check.holding("()a()");
         Check.dueNoElement("10 no bracket", () -> text.beside(2, false));
         Check.due("10 past a byte", text.beside(0, true), 3);
+        Check.due("10 the first one of all", text.beside(3, false), 0);
+        Check.due("10 the last one of all", text.beside(4, true), -1);
+        BracketHall cousins = Check.holding("(())(())");
+        Check.due("10 not within another pair, next", cousins.beside(1, true), -1);
+        Check.due("10 not within another pair, ahead", cousins.beside(5, false), -1);
     }
 
     private static void lone() {
@@ -159,8 +167,8 @@ public final class PlacesTest {
     }
 
     private static void count() {
-        BracketHall hall = Check.holding(KINDS, "(([)[]){");
-        int[][] due = {{2, 2, 2}, {2, 1, 1}, {1, 0, 0}};
+        BracketHall hall = Check.holding(KINDS, "((([)[]){{{{}[[");
+        int[][] due = {{3, 2, 2}, {4, 1, 1}, {4, 1, 1}};
         for (int kind = 0; kind < 3; kind++) {
             for (int what = 0; what < 3; what++) {
                 Check.due("12 count(" + kind + ", " + what + ")", hall.count(kind, what), due[kind][what]);
@@ -180,6 +188,8 @@ public final class PlacesTest {
         Check.due("13 first of several", Check.holding("(a)(bc)(d)(ef)").widest(), 3);
         Check.due("13 inner ones are less wide", Check.holding("()((x))").widest(), 2);
         Check.due("13 two bytes", Check.holding(")()").widest(), 1);
+        Check.due("13 the first byte", Check.holding("(a)").widest(), 0);
+        Check.due("13 a wider one behind", Check.holding("x(a)(bcd)(b)").widest(), 4);
         Check.due("13 hidden bytes count", Check.holding(SIGNS, "(a)(\"(\")").widest(), 3);
     }
 

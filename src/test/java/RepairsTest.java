@@ -54,6 +54,8 @@ public final class RepairsTest {
         repairs(KINDS, ")}(", 6, "D0:0 D1:2 D2:0");
         repairs(KINDS + "costs 5 4 3;", "{[)(}]", 9, "C2:1 C4:0 C5:2");
         repairs(KINDS + "costs 2 3 1;", "{[x)(](}", 4, "C3:1 C5:0 D6:0");
+        repairs(KINDS, "{{](}})", 6, "D2:1 D3:0 D6:0");
+        repairs(KINDS, "[(]{[}(()]", 8, "D1:0 D3:2 D5:2 D6:0");
     }
 
     private static void stepErrors() {

@@ -77,6 +77,10 @@ public final class TextsTest {
         Check.due("3 last drop", hall.size(11), 5);
         Check.due("3 last change", hall.size(13), 3);
         Check.due("3 note ahead of quote", Check.setup(hall, "kinds (); note #; quote \";"), 0);
+        Check.due("3 signs beside the letters and digits", Check.setup(hall, "kinds !~ /: `{ @[; note <; quote _;"), 0);
+        Check.load(hall, "!/`@[{:~<_");
+        Check.dueText("3 such signs", Check.looks(hall, 1), "0 1 2 3 3 2 1 0 -1 -1");
+        Check.dueText("3 such note and quote", Check.looks(hall, 6), "0 0 0 0 0 0 0 0 2 2");
         Check.due("3 shorter length", Check.feed(hall, "kinds [];;"), 10);
         Check.due("3 first bytes only", hall.setup(9), 0);
         Check.dueNoArgument("3 buffer emptied", () -> hall.setup(1));
@@ -173,6 +177,13 @@ public final class TextsTest {
         error("kinds (" + (char) 0 + ";", 1, 6);
         error("kinds (); colours 0; " + (char) 1, 2, 18);
         error("12 kinds ();", 1, 0);
+        error("binds ();", 1, 0);
+        error("kindt ();", 1, 0);
+        error("kinds (); xuote \";", 1, 10);
+        error("kinds () aa;", 1, 9);
+        error("kinds () zz;", 1, 9);
+        error("kinds () 00;", 1, 9);
+        error("kinds () 99;", 1, 9);
     }
 
     private static void error(String text, int code, int position) {
@@ -257,6 +268,12 @@ public final class TextsTest {
         Check.due("5 a script that cannot be done has no error", hall.errorPosition(), -1);
         Check.script(hall, "want");
         Check.due("5 text ends too early", hall.errorPosition(), 4);
+        Check.feed(hall, "want 12;");
+        Check.due("5 a number cut off", hall.script(6), -11);
+        Check.due("5 text ends within a number", hall.errorPosition(), 6);
+        Check.feed(hall, "kindsx ();");
+        Check.due("5 a word cut off", hall.setup(5), 1);
+        Check.due("5 text ends within a word", hall.errorPosition(), 5);
         Check.script(hall, "");
         Check.due("5 no error of script", hall.errorPosition(), -1);
     }

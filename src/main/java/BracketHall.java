@@ -241,6 +241,9 @@ public final class BracketHall {
 
     public int culprit() {
         int total = mendNow().total;
+        if (total == 0) {
+            return NONE;
+        }
         int best = mending.leastSpared(readNow());
         for (int place = 0; place < now.length; place++) {
             // Other bytes than these are brackets, or hide and show nothing.
@@ -1510,6 +1513,7 @@ public final class BracketHall {
 
         private final int[] places = new int[MOST_BYTES];
         private final int[] roles = new int[MOST_BYTES];
+        private final boolean[] closing = new boolean[MOST_BYTES];
         private final int[] costs = new int[SPOTS];
         private final int[] spared = new int[SPOTS];
         private final int[] ends = new int[MOST_BYTES + 2];
@@ -1549,7 +1553,7 @@ public final class BracketHall {
                 if (isEnd(j)) {
                     costs[spot(j, j)] = 0;
                     for (int i = j - 1; i >= 0; i--) {
-                        costs[spot(i, j)] = cheapest(i, j);
+                        settle(i, j);
                     }
                 }
             }
@@ -1563,7 +1567,7 @@ public final class BracketHall {
                 if (isEnd(j)) {
                     spared[spot(j, j)] = FAR;
                     for (int i = j - 1; i >= 0; i--) {
-                        spared[spot(i, j)] = cheapestSpared(i, j);
+                        settleSpared(i, j);
                     }
                 }
             }
@@ -1577,6 +1581,7 @@ public final class BracketHall {
                 if (role != NONE) {
                     places[count] = place;
                     roles[count] = role;
+                    closing[count] = role % 2 == 1;
                     count++;
                 }
             }
@@ -1587,54 +1592,50 @@ public final class BracketHall {
             return j * (j + 1) / 2 + i;
         }
 
-        private boolean isClosing(int bracket) {
-            return roles[bracket] % 2 == 1;
-        }
-
         /** Brackets that are repaired by themselves end ahead of a partner, or with the last one. */
         private boolean isEnd(int j) {
-            return j == count || isClosing(j);
+            return j == count || j >= 0 && j < count && closing[j];
         }
 
-        private int cheapest(int i, int j) {
-            int best = alone + costs[spot(i + 1, j)];
-            if (isClosing(i)) {
-                return best;
-            }
-            for (int m = i + 1; m < j; m++) {
-                if (isClosing(m)) {
-                    best = Math.min(best, pairedCost(i, m, j));
+        private int pairPrice(int i, int m) {
+            return roles[i] + 1 == roles[m] ? 0 : change;
+        }
+
+        /** Notes the least cost from the i-th one up to the j-th one; returns its partner then, or NONE. */
+        private int settle(int i, int j) {
+            int behind = spot(0, j);
+            int best = alone + costs[behind + i + 1];
+            int partner = NONE;
+            boolean opening = !closing[i];
+            for (int m = i + 1; opening && m < j; m++) {
+                if (closing[m]) {
+                    int cost = pairPrice(i, m) + costs[spot(i + 1, m)] + costs[behind + m + 1];
+                    if (cost < best) {
+                        best = cost;
+                        partner = m;
+                    }
                 }
             }
-            return best;
+            costs[behind + i] = best;
+            return partner;
         }
 
-        private int pairedCost(int i, int m, int j) {
-            return pairPrice(i, m) + costs[spot(i + 1, m)] + costs[spot(m + 1, j)];
-        }
-
-        private int pairPrice(int opening, int closing) {
-            return roles[opening] + 1 == roles[closing] ? 0 : change;
-        }
-
-        private int cheapestSpared(int i, int j) {
-            int best = placed(costs[spot(i + 1, j)], places[i]);
-            best = Math.min(best, placed(alone, 0) + spared[spot(i + 1, j)]);
-            if (isClosing(i)) {
-                return best;
-            }
-            for (int m = i + 1; m < j; m++) {
-                if (isClosing(m)) {
-                    best = Math.min(best, pairedSpared(i, m, j));
+        /** The same, if one of these brackets is not there: the i-th one, or one of those behind it. */
+        private void settleSpared(int i, int j) {
+            int behind = spot(0, j);
+            int best = placed(costs[behind + i + 1], places[i]);
+            best = Math.min(best, placed(alone, 0) + spared[behind + i + 1]);
+            boolean opening = !closing[i];
+            for (int m = i + 1; opening && m < j; m++) {
+                if (closing[m]) {
+                    int between = spot(i + 1, m);
+                    int price = placed(pairPrice(i, m), 0);
+                    int sparedBetween = spared[between] + placed(costs[behind + m + 1], 0);
+                    int sparedBehind = placed(costs[between], 0) + spared[behind + m + 1];
+                    best = Math.min(best, price + Math.min(sparedBetween, sparedBehind));
                 }
             }
-            return best;
-        }
-
-        private int pairedSpared(int i, int m, int j) {
-            int sparedBetween = placed(costs[spot(m + 1, j)], 0) + spared[spot(i + 1, m)];
-            int sparedBehind = placed(costs[spot(i + 1, m)], 0) + spared[spot(m + 1, j)];
-            return placed(pairPrice(i, m), 0) + Math.min(sparedBetween, sparedBehind);
+            spared[behind + i] = best;
         }
 
         /** Walks through the brackets: one that none has taken is repaired with those up to its end. */
@@ -1645,7 +1646,7 @@ public final class BracketHall {
                 ends[i] = count;
             }
             for (int i = 0; i < count; i++) {
-                int partner = takenRoles[i] == NONE ? partnerIn(i, ends[i]) : NONE;
+                int partner = takenRoles[i] == NONE ? settle(i, ends[i]) : NONE;
                 if (partner != NONE) {
                     takenRoles[partner] = roles[i] + 1;
                     ends[i + 1] = partner;
@@ -1657,22 +1658,6 @@ public final class BracketHall {
                     addStep(CHANGE, i, takenRoles[i]);
                 }
             }
-        }
-
-        private int partnerIn(int i, int j) {
-            if (isClosing(i) || j <= i || j > count) {
-                return NONE;
-            }
-            int cost = costs[spot(i, j)];
-            if (cost == alone + costs[spot(i + 1, j)]) {
-                return NONE;
-            }
-            for (int m = i + 1; m < j; m++) {
-                if (isClosing(m) && pairedCost(i, m, j) == cost) {
-                    return m;
-                }
-            }
-            return NONE;
         }
 
         private void addStep(int act, int bracket, int role) {

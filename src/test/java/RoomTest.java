@@ -52,7 +52,8 @@ public final class RoomTest {
     }
 
     private static void callsMakeNothing() {
-        BracketHall hall = Check.holding(SETUP, "(".repeat(50) + "\"[\"#]\n".repeat(20) + ")".repeat(50));
+        BracketHall hall = Check.holding(SETUP, "(".repeat(51) + "\"[\"#]\n".repeat(20) + ")".repeat(50));
+        hall.saveSnapshot(0);
         everyCall(hall);
         long before = allocated();
         for (int n = 0; n < CALLS; n++) {
@@ -70,29 +71,12 @@ public final class RoomTest {
     }
 
     private static void everyCall(BracketHall hall) {
-        int put0 = 0x70757430;
-        hall.append(put0, 0x2034303b, put0, 0x2034303b, put0);
-        hall.script(16);
-        hall.append(put0, 0x2034303b, 0x77616e74, 0x3939393b, put0);
-        hall.script(15);
-        hall.append(0x28282828, 0, 0, 0, 0);
-        hall.insert(0, 4);
-        hall.erase(0, 4);
-        hall.wrap(1, 5, 0);
-        hall.unwrap(hall.size(0) - 20);
-        hall.culprit();
-        hall.costWithout(3);
-        hall.repair();
-        hall.undo();
-        hall.undo();
-        hall.undo();
-        hall.mark(3);
-        hall.unmark(0);
-        hall.setColours(4);
-        hall.setCosts(2, 3, 4);
-        hall.saveSnapshot(0);
         hall.restoreSnapshot(0);
-        hall.report();
+        everyQuestion(hall);
+        everyChange(hall);
+    }
+
+    private static void everyQuestion(BracketHall hall) {
         for (int what = 0; what < 14; what++) {
             hall.size(what);
             hall.look(5, Math.min(what, 8));
@@ -100,11 +84,46 @@ public final class RoomTest {
         hall.around(5, 1);
         hall.beside(5, true);
         hall.within(5, 0);
-        hall.meanDepth();
-        hall.share();
-        hall.widest();
         hall.lone(0);
         hall.count(0, 2);
+        hall.widest();
+        hall.meanDepth();
+        hall.share();
+        hall.repairCost();
+        hall.repairSteps();
+        hall.repairStep(0, 1);
+        hall.costWithout(3);
+        hall.culprit();
+        hall.report();
+        hall.reportByte(3);
+        hall.errorPosition();
+    }
+
+    private static void everyChange(BracketHall hall) {
+        int put0 = 0x70757430;
+        hall.append(put0, 0x2034303b, put0, 0x2034303b, 0);
+        hall.script(16);
+        hall.append(put0, 0x2034303b, 0x77616e74, 0x39393b20, 0);
+        hall.script(15);
+        hall.append(put0, 0x2034303b, put0, 0, 0);
+        hall.script(20);
+        hall.append(0x28282828, 0, 0, 0, 0);
+        hall.insert(0, 4);
+        hall.erase(0, 4);
+        hall.wrap(1, 5, 0);
+        hall.unwrap(hall.size(0) - 1);
+        hall.culprit();
+        hall.repair();
+        hall.mark(3);
+        hall.unmark(0);
+        hall.setColours(4);
+        hall.setCosts(3, 2, 4);
+        hall.repair();
         hall.undo();
+        hall.saveSnapshot(1);
+        hall.append(0x6b696e64, 0x73202829, 0x3b282829, 0, 0);
+        hall.setup(8);
+        hall.append(0, 0, 0, 0, 0);
+        hall.load(1);
     }
 }

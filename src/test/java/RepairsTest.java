@@ -108,6 +108,8 @@ public final class RepairsTest {
         Check.due("20 nothing to repair", Check.holding("(a)").culprit(), -1);
         Check.due("20 lone one", Check.holding("()a)").culprit(), 1);
         Check.due("20 first of several", Check.holding("a((").culprit(), 1);
+        Check.due("20 first of three", Check.holding("a(((").culprit(), 1);
+        Check.due("20 within two pairs", Check.holding("kinds () [] {};", "x[(y{)]]").culprit(), 4);
         Check.due("20 behind a pair", Check.holding("kinds () [];", "()[").culprit(), 2);
         Check.due("20 within a pair", Check.holding("kinds () [];", "([)").culprit(), 1);
         Check.due("20 no brackets", Check.holding("abc").culprit(), -1);

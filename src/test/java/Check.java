@@ -2,6 +2,7 @@
 final class Check {
     private static int right = 0;
     private static int wrong = 0;
+    private static String about = "";
 
     interface Call {
         double answer();
@@ -10,12 +11,22 @@ final class Check {
     private Check() {
     }
 
+    /** What the next answers are about; it is told ahead of each wrong one. */
+    static void about(String subject) {
+        about = subject;
+    }
+
+    /** The number of answers that have been held against those that are due. */
+    static int asked() {
+        return right + wrong;
+    }
+
     static void due(String call, double got, double want) {
         if (got == want) {
             right++;
         } else {
             wrong++;
-            System.out.println(call + " answered " + got + ", due is " + want);
+            System.out.println(about + call + " answered " + got + ", due is " + want);
         }
     }
 
@@ -24,7 +35,7 @@ final class Check {
             right++;
         } else {
             wrong++;
-            System.out.println(call + " answered <" + got + ">, due is <" + want + ">");
+            System.out.println(about + call + " answered <" + got + ">, due is <" + want + ">");
         }
     }
 

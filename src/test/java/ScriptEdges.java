@@ -149,6 +149,7 @@ final class ScriptEdges {
         dueNotDone("", "put 1 120;", 0);
         due("x".repeat(239), "put 239 40;", 1, "x".repeat(239) + "(");
         dueNotDone("x".repeat(240), "put 240 40;", 0);
+        dueNotDone("x".repeat(240), "put 0 40; erase 0 1;", 0);
         BracketHall hall = MarkEdges.marked("ab", 0, 1, 2);
         Check.script(hall, "put 1 120;");
         MarkEdges.due(hall, "0 2 3");
@@ -185,6 +186,7 @@ final class ScriptEdges {
         dueNotDone("abc", "wrap 0 3 2;", 0);
         dueNotDone("abc", "wrap 0 3 999;", 0);
         dueNotDone("x".repeat(239), "wrap 0 1 0;", 0);
+        dueNotDone("x".repeat(239), "wrap 0 1 0; erase 0 2;", 0);
         dueNotDone("x".repeat(240), "wrap 0 1 0;", 0);
         BracketHall hall = MarkEdges.marked("abc", 0, 1, 2, 3);
         Check.script(hall, "wrap 1 2 0;");
